@@ -892,6 +892,8 @@ public final class BoxSpider {
         private final Line line = new Line();
         private final Stand[] stands = new Stand[MOST_WALLS];
         private final int[] rolled = new int[MOST_WALLS];
+        /** The walls, as bits, on which the way may end. */
+        private int goals;
         private int length;
         private int tally;
         private int row;
@@ -905,6 +907,7 @@ public final class BoxSpider {
         }
 
         private void find(int[] spans) {
+            goals = to.wallBits();
             length = NONE;
             tally = 0;
             row = 0;
@@ -920,19 +923,23 @@ public final class BoxSpider {
         /** Walls are tried by their numbers, so the rows come in order. */
         private void extend(int depth, int seen) {
             Stand here = stands[depth];
-            if (to.isOn(here.below)) {
+            if ((goals >> here.below & 1) == 1) {
                 weigh(depth);
             }
-            if (depth + 1 >= MOST_WALLS) {
+            int next = depth + 1;
+            if (next >= MOST_WALLS) {
                 return;
             }
+            int shut = seen | room.bars[here.below] | 1 << (here.below ^ 1);
+            if (next + 1 == MOST_WALLS) {
+                // A last wall without the goal would be laid for nothing.
+                shut |= ~goals;
+            }
             for (int wall = 0; wall < WALLS; wall++) {
-                int roll = here.rollTo(wall);
-                boolean fresh = (seen >> wall & 1) == 0;
-                if (roll != 0 && fresh && !room.isBarred(here.below, wall)) {
-                    rolled[depth] = roll;
-                    stands[depth + 1].follow(here, roll);
-                    extend(depth + 1, seen | 1 << wall);
+                if ((shut >> wall & 1) == 0) {
+                    rolled[depth] = here.rollTo(wall);
+                    stands[next].follow(here, rolled[depth]);
+                    extend(next, seen | 1 << wall);
                 }
             }
         }
