@@ -47,12 +47,6 @@ public final class PromisesTest {
         }
     }
 
-    private static void typeAll(BoxSpider b, String text) {
-        for (int i = 0; i < text.length(); i++) {
-            b.type(text.charAt(i));
-        }
-    }
-
     private static void sides(BoxSpider b, int l, int w, int h) {
         b.side(0, l);
         b.side(1, w);
@@ -212,7 +206,7 @@ public final class PromisesTest {
         due("7 none", b.undo(), -3);
         due("8 empty", b.wipe(), 0);
         due("9 none", b.fault(), -1);
-        typeAll(b, "ewns");
+        Boxes.type(b, "ewns");
         due("9 all letters", b.fault(), -1);
         b.type('E');
         due("9 capital", b.fault(), 4);
@@ -225,7 +219,7 @@ public final class PromisesTest {
         due("8 had", b.wipe(), 4);
         due("8 is empty", b.count(1), 0);
         due("7 none left", b.undo(), -3);
-        typeAll(b, "eeeeeeeeeeeeeeeeeeee");
+        Boxes.type(b, "eeeeeeeeeeeeeeeeeeee");
         due("9 twenty", b.fault(), -1);
         b.type('e');
         due("9 the 21st", b.fault(), 20);
@@ -271,13 +265,13 @@ public final class PromisesTest {
         BoxSpider b = new BoxSpider();
         sides(b, 2, 3, 5);
         laid("11 at first", b, 0, 0, 0, 0, 2, 3);
-        typeAll(b, "wsen");
+        Boxes.type(b, "wsen");
         laid("11 w", b, 1, 2, -5, 0, 5, 3);
         laid("11 ws", b, 2, 4, -5, -2, 5, 2);
         laid("11 wse", b, 3, 0, 0, -2, 3, 2);
         laid("11 wsen", b, 4, 2, 0, 0, 3, 5);
         b.wipe();
-        typeAll(b, "nne");
+        Boxes.type(b, "nne");
         laid("11 n", b, 1, 5, 0, 3, 2, 5);
         laid("11 nn", b, 2, 1, 0, 8, 2, 3);
         laid("11 nne", b, 3, 3, 2, 8, 5, 3);
@@ -295,7 +289,7 @@ public final class PromisesTest {
         sides(b, 2, 3, 5);
         b.place(0, 1, 3, 4);
         due("12 not below", b.lies(0, 0, 0), ANY_NOT);
-        typeAll(b, "nw");
+        Boxes.type(b, "nw");
         due("12 x", b.lies(0, 1, 0), 1);
         due("12 y", b.lies(0, 1, 1), 7);
         due("12 not on 2", b.lies(0, 2, 0), ANY_NOT);
@@ -489,7 +483,7 @@ public final class PromisesTest {
         b.place(2, 2, 4, 2);
         b.place(3, 4, 4, 0);
         b.place(4, 0, 0, 0);
-        typeAll(b, "en");
+        Boxes.type(b, "en");
         due("21 same wall", b.told(0, 0, 4, 0), 8);
         due("21 over the edge", b.told(0, 0, 1, 1), 16);
         due("21 from a later one", b.told(1, 1, 2, 2), 16);
@@ -513,7 +507,7 @@ public final class PromisesTest {
         due("21 ahead of it", b.told(0, 0, 1, 1), 16);
         b.wipe();
         b.bar(3, 5, 0);
-        typeAll(b, "eeeeeeee");
+        Boxes.type(b, "eeeeeeee");
         due("21 walls twice", b.told(0, 0, 0, 8), 32 * 32);
         due("21 round once", b.told(0, 4, 0, 8), 16 * 16);
         b.type('e');
@@ -592,12 +586,12 @@ public final class PromisesTest {
     }
 
     private static void promise24Flies() {
-        BoxSpider b = new BoxSpider();
-        for (int p = 0; p < 8; p++) {
-            b.place(p, 0, 0, p);
-        }
         int[] seeds = {0, 7, -1, LEAST, Integer.MAX_VALUE, 12345};
         for (int seed : seeds) {
+            BoxSpider b = new BoxSpider();
+            for (int p = 0; p < 8; p++) {
+                b.place(p, 0, 0, p);
+            }
             long state = seed & 0xffffffffL;
             int near = 0;
             for (int n = 0; n <= 99; n++) {
@@ -607,6 +601,7 @@ public final class PromisesTest {
                 near += (lot - 2) * (lot - 2) <= 4 ? 1 : 0;
             }
         }
+        BoxSpider b = new BoxSpider();
         int[][] bad = {{-1, 0, 0, 0}, {8, 0, 0, 0}, {0, 0, -1, 0}, {0, 0, 100, 0}, {0, 0, 1, -1}, {0, 0, 1, 10000}};
         for (int[] c : bad) {
             due("24 bad", b.flies(c[0], c[1], c[2], c[3]), -2);
@@ -759,7 +754,7 @@ public final class PromisesTest {
     private static void promise31Count() {
         BoxSpider b = new BoxSpider();
         sides(b, 3, 4, 5);
-        typeAll(b, "en");
+        Boxes.type(b, "en");
         b.place(1, 3, 4, 5);
         b.place(2, 3, 4, 5);
         b.place(3, 3, 4, 0);
@@ -783,41 +778,17 @@ public final class PromisesTest {
         due("31 eight unlike", b.count(6), 8);
     }
 
-    private static long digestOf(BoxSpider b) {
-        long h = 17;
-        for (int what = 0; what < 8; what++) {
-            h = 31 * h + b.count(what);
-        }
-        h = 31 * h + b.fault();
-        for (int p = 0; p < 8; p++) {
-            int q = p == 7 ? 0 : p + 1;
-            long[] parts = {b.at(p, 0), b.at(p, 1), b.at(p, 2), b.at(p, 3), b.shortest(p, q), b.ways(p, q),
-                b.face(p, q, 0), b.face(p, q, 1), b.face(p, q, 2), b.farthest(p), b.within(p, 200), b.lies(p, 0, 0)};
-            for (long part : parts) {
-                h = 31 * h + part;
-            }
-        }
-        int all = b.count(0);
-        long[] parts = {b.laidOut(all, 0), b.laidOut(all, 1), b.laidOut(all, 2), b.laidOut(all, 3), b.laidOut(all, 4),
-            b.sit(), b.nearer(0, 1), b.wires(255, -1), b.wires(255, -2), b.wires(255, 0), b.told(0, 0, 1, all),
-            b.snail(2, 1, 5, 0), b.snail(3, -2, 8, 1), b.thread(0, 1, 100, 0), b.flies(0, 7, 20, 300)};
-        for (long part : parts) {
-            h = 31 * h + part;
-        }
-        return h;
-    }
-
     private static void promise32Digest() {
         BoxSpider b = new BoxSpider();
-        due("32 new", b.digest(), digestOf(b));
+        due("32 new", b.digest(), Boxes.digestOf(b));
         sides(b, 7, 9, 11);
-        typeAll(b, "enne");
+        Boxes.type(b, "enne");
         for (int p = 0; p < 8; p++) {
             b.place(p, p % 2 * 7, p, p + 2);
         }
         b.bar(0, 2, 1);
         long before = b.digest();
-        due("32 used", before, digestOf(b));
+        due("32 used", before, Boxes.digestOf(b));
         due("32 changes nothing", b.digest(), before);
         b.lose(0);
         due("32 not the finding", b.digest(), before);
@@ -827,7 +798,7 @@ public final class PromisesTest {
 
     private static void refusalsChangeNothing() {
         BoxSpider b = new BoxSpider();
-        typeAll(b, "en");
+        Boxes.type(b, "en");
         b.place(0, 12, 6, 9);
         b.bar(0, 2, 1);
         long before = b.digest();
