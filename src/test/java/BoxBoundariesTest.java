@@ -14,6 +14,7 @@ public final class BoxBoundariesTest {
         lostBeyond();
         lostInside();
         notLost();
+        otherSideOtherWay();
         lastOf512();
         fortyBytes();
         typeCall();
@@ -239,6 +240,21 @@ public final class BoxBoundariesTest {
             DOC.due("another side", b.side((axis + 1) % 3, 6), 10);
             standsAt("where it was", b, 4, end);
         }
+    }
+
+    private static void otherSideOtherWay() {
+        DOC.of("when a side changes, one");
+        // From wall 4 to wall 5, 6 from wall 2: by it, until wall 3 comes nearer.
+        BoxSpider b = new BoxSpider();
+        b.place(0, 6, 0, 15);
+        b.place(1, 6, 12, 15);
+        DOC.due("by wall 2 or 3", b.shortest(0, 1), 24 * 24);
+        DOC.due("one longer", b.side(0, 13), 12);
+        DOC.due("by wall 2", b.face(0, 1, 1), 2);
+        DOC.due("by wall 2 alone", b.ways(0, 1), 1);
+        DOC.due("shorter", b.side(0, 8), 13);
+        DOC.due("by wall 3", b.shortest(0, 1), 16 * 16);
+        DOC.due("by wall 3", b.face(0, 1, 1), 3);
     }
 
     private static void lastOf512() {

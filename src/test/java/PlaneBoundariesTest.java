@@ -163,6 +163,22 @@ public final class PlaneBoundariesTest {
         DOC.due(what + ": roll", b.snail(right, up, k, 1), roll);
     }
 
+    /** To the north east as told; to the other corners walls and rolls change places. */
+    private static void mirrored(BoxSpider b, int right, int up, int[] walls, int[] rolls) {
+        int[] westWall = {0, 1, 3, 2, 4, 5};
+        int[] southWall = {0, 1, 2, 3, 5, 4};
+        int[] westRoll = {0, 2, 1, 3, 4};
+        int[] southRoll = {0, 1, 2, 4, 3};
+        for (int k = 0; k < walls.length; k++) {
+            int wall = walls[k];
+            int roll = rolls[k];
+            snailed(b, right, up, k, wall, roll);
+            snailed(b, -right, up, k, westWall[wall], westRoll[roll]);
+            snailed(b, right, -up, k, southWall[wall], southRoll[roll]);
+            snailed(b, -right, -up, k, southWall[westWall[wall]], southRoll[westRoll[roll]]);
+        }
+    }
+
     private static void snailAtFirst() {
         DOC.of("SNAIL: THE BOX stands as ahead of all ROLLS; it begins in the middle of WALL 0");
         BoxSpider b = Boxes.of(1, 1, 1);
@@ -170,9 +186,7 @@ public final class PlaneBoundariesTest {
         // The middle is a half: over y = 1 at 3/4, x = 1 at 1 1/2, y = 2 at 1 1/4, y = 3 at 1 3/4, x = 2 at 3 1/2.
         int[] walls = {0, 5, 3, 1, 2, 4};
         int[] rolls = {0, 3, 1, 3, 3, 1};
-        for (int k = 0; k <= 5; k++) {
-            snailed(b, 1, 2, k, walls[k], rolls[k]);
-        }
+        mirrored(b, 1, 2, walls, rolls);
         b = Boxes.of(2, 4, 30);
         snailed(b, 1, 1, 1, 3, 1);
         snailed(b, -1, 1, 1, 2, 2);
@@ -229,9 +243,7 @@ public final class PlaneBoundariesTest {
         BoxSpider b = Boxes.of(2, 4, 6);
         int[] walls = {0, 3, 5, 2, 1};
         int[] rolls = {0, 1, 3, 3, 1};
-        for (int k = 0; k < walls.length; k++) {
-            snailed(b, 1, 1, k, walls[k], rolls[k]);
-        }
+        mirrored(b, 1, 1, walls, rolls);
     }
 
     private static void snailCorners() {

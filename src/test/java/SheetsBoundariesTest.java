@@ -532,6 +532,11 @@ public final class SheetsBoundariesTest {
             b.place(place, 3, 4, 11);
             DOC.so("place " + place + " changes it", b.digest() != before);
             DOC.due("place " + place + " moved", b.digest(), Boxes.digestOf(b));
+            // Just within 200 of the corner, and with an x that is not its y.
+            b = new BoxSpider();
+            b.place(place, 2, 12, 0);
+            b.place((place + 1) % 8, 10, 10, 0);
+            DOC.due("place " + place + " on the floor", b.digest(), Boxes.digestOf(b));
         }
         BoxSpider b = Boxes.of(1, 1, 1);
         b.place(7, 1, 1, 1);
@@ -555,5 +560,12 @@ public final class SheetsBoundariesTest {
         }
         BoxSpider b = Boxes.of(30, 30, 30);
         DOC.due("the greatest box", b.digest(), Boxes.digestOf(b));
+        b.place(1, 10, 0, 0);
+        DOC.due("a thread of 100", b.thread(0, 1, 100, 0), 30);
+        DOC.due("its digest", b.digest(), Boxes.digestOf(b));
+        b = Boxes.of(30, 30, 30);
+        b.place(1, 30, 30, 30);
+        DOC.so("flies near to 0 are not near to 1", b.flies(0, 7, 20, 300) != b.flies(1, 7, 20, 300));
+        DOC.due("its digest", b.digest(), Boxes.digestOf(b));
     }
 }

@@ -251,6 +251,13 @@ public final class WaysBoundariesTest {
         row(b, 1, 2, 2);
         way(b, 0, 2, 4, 2);
         way(b, 2, 0, 4, 2);
+        b.place(3, 1, 4, 2);
+        way(b, 3, 2, 1, 2);
+        way(b, 2, 3, 1, 2);
+        b.place(4, 3, 4, 2);
+        b.place(5, 4, 4, 2);
+        way(b, 4, 5, 1, 2);
+        way(b, 5, 4, 1, 2);
     }
 
     private static void edgesAndTheirEnds() {
@@ -402,6 +409,10 @@ public final class WaysBoundariesTest {
         b.place(2, 0, 0, 9);
         b.place(3, 0, 0, 12);
         row(b, 2, 3, 2);
+        // From the edge of 0 and 4, where 0, 4 has but one wall more.
+        b.place(4, 6, 0, 0);
+        way(b, 4, 1, 25, 2);
+        row(b, 4, 1, 4);
         b = Boxes.of(4, 4, 4);
         b.place(0, 2, 2, 4);
         b.place(1, 2, 2, 0);
@@ -424,6 +435,8 @@ public final class WaysBoundariesTest {
         way(b, 0, 1, -1, 0);
         way(b, 1, 0, -1, 0);
         way(b, 1, 1, 0, 1);
+        row(b, 1, 1, 1);
+        row(b, 1, 7);
         b.place(2, 6, 12, 30);
         way(b, 1, 2, 36, 1);
         b.bar(1, 4, 0);
@@ -582,6 +595,12 @@ public final class WaysBoundariesTest {
         }
         // At 28, 28, 26, 24, 20, 16, 10 and 4.
         wired("longer and longer", b, 255, 36, 1, 2, 16 + 3, 24 + 4, 32 + 5, 40 + 6, 48 + 7);
+        // 0 and 1 are joined by 5, which stands between them, so not by a wire of their own.
+        b.place(0, 0, 0, 0);
+        b.place(5, 0, 0, 1);
+        b.place(1, 0, 0, 3);
+        wired("joined by a greater one", b, 1 | 2 | 32, 4, 5, 8 + 5);
+        wired("none again", b, 0, 0);
     }
 
     private static void wiresWithout() {
