@@ -567,6 +567,10 @@ public final class BoxBoundariesTest {
         for (int s = 0; s < 4; s++) {
             DOC.due("sheet " + s, b.lose(s), Boxes.NULL);
         }
+        // All places are at one corner: rows of one, two or three of its walls.
+        DOC.due("no way to go", new BoxSpider().shortest(0, 7), 0);
+        DOC.due("ways at a corner", new BoxSpider().ways(0, 7), 3 + 6 + 6);
+        DOC.due("the least row", new BoxSpider().face(0, 7, 0), 0);
         BoxSpider other = new BoxSpider();
         b.side(0, 5);
         b.sheet(0, 0, 4);

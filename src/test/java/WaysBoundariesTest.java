@@ -285,6 +285,28 @@ public final class WaysBoundariesTest {
         Boxes.openOnly(b, 24);
         way(b, 0, 1, 900, 4);
         row(b, 0, 1, 2);
+        alongEdges();
+    }
+
+    /**
+     * From each corner along each of its edges, of walls A and C, B being the corner's third: A, C, AC, CA, and by
+     * the corner, which is an end of all three edges, BA, BC, BAC, BCA, ABC, CBA.
+     */
+    private static void alongEdges() {
+        int[] sides = {7, 9, 11};
+        for (int corner = 0; corner < 8; corner++) {
+            BoxSpider b = Boxes.of(7, 9, 11);
+            int[] p = {(corner & 1) * 7, (corner >> 1 & 1) * 9, (corner >> 2) * 11};
+            b.place(0, p[0], p[1], p[2]);
+            for (int axis = 0; axis < 3; axis++) {
+                int[] q = p.clone();
+                q[axis] = Math.abs(sides[axis] - 3 - p[axis]);
+                int far = Math.abs(q[axis] - p[axis]);
+                b.place(1, q[0], q[1], q[2]);
+                way(b, 0, 1, far * far, 10);
+                way(b, 1, 0, far * far, 10);
+            }
+        }
     }
 
     private static void noneBarred() {
