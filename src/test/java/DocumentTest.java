@@ -64,7 +64,9 @@ public final class DocumentTest {
             return;
         }
         int start = from;
+        boolean none = true;
         for (int i = from; i <= to; i++) {
+            none &= i == to || !quoted[i];
             if (i == to || quoted[i]) {
                 String left = document.substring(start, i).trim();
                 if (left.length() > MOST_LEFT_OUT) {
@@ -72,6 +74,10 @@ public final class DocumentTest {
                 }
                 start = i + 1;
             }
+        }
+        // A promise may be shorter than what may be left out.
+        if (none) {
+            fail(document.substring(from, to));
         }
     }
 
