@@ -7,7 +7,7 @@ import java.util.List;
 import java.util.regex.Matcher;
 import java.util.regex.Pattern;
 
-// Whether what the document promises is quoted, sentence by sentence, by the tests of its bounds.
+// Whether what the document promises is quoted, sentence by sentence, by the tests.
 public final class DocumentTest {
     /** Words between two quotes ("and", ": laid flat by rolling,") may be left out, sentences not. */
     private static final int MOST_LEFT_OUT = 40;
@@ -23,7 +23,7 @@ public final class DocumentTest {
                 Arrays.fill(quoted, i, i + quote.length(), true);
             }
         }
-        look(document, quoted, document.indexOf("THE BOX has three sides"), document.indexOf("## The public face"));
+        look(document, quoted, document.indexOf("Over a box by the shortest"), document.indexOf("## The public face"));
         look(document, quoted, document.indexOf("## Terms"), document.indexOf("Ahead of the calls"));
         int promises = 0;
         Matcher promise = Pattern.compile("(?m)^`[^`]*\\(.*?\\)`: .*$").matcher(document);
@@ -42,7 +42,7 @@ public final class DocumentTest {
 
     private static List<String> quotes(Path folder) throws Exception {
         List<String> found = new ArrayList<>();
-        try (DirectoryStream<Path> files = Files.newDirectoryStream(folder, "*BoundariesTest.java")) {
+        try (DirectoryStream<Path> files = Files.newDirectoryStream(folder, "*Test.java")) {
             for (Path file : files) {
                 Matcher quote = QUOTE.matcher(Files.readString(file));
                 while (quote.find()) {

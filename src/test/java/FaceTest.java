@@ -12,10 +12,6 @@ import java.util.regex.Pattern;
 
 // The public face, member by member, and those rules of LANGUAGE.md that a look can tell.
 public final class FaceTest {
-    private static final String FACE = "side(II)I place(IIII)I at(II)I read(I)I type(I)I undo()I wipe()I fault()I "
-        + "bar(III)I laidOut(II)I lies(III)I shortest(II)I ways(II)I face(III)I farthest(I)I sit()I nearer(II)I "
-        + "wires(II)I within(II)I told(IIII)I snail(IIII)I thread(IIII)I flies(IIII)I sheet(III)I lose(I)I "
-        + "lay(IIII)I get(III)I copy(IIIII)I write(II)I count(I)I digest()J";
     private static int wrong = 0;
 
     private static void holds(String what, boolean so) {
@@ -26,57 +22,91 @@ public final class FaceTest {
     }
 
     public static void main(String[] args) throws Exception {
-        face();
+        String document = Sentences.document(args);
+        String source = Files.readString(Path.of(args.length > 0 ? args[0] : ".", "src/main/java/BoxSpider.java"));
+        members(between(document, "```java\n", "```"));
+        headings(document, source);
         classesInside();
-        words(Files.readString(Path.of(args.length > 0 ? args[0] : ".", "src/main/java/BoxSpider.java")));
+        words(source);
         System.out.println(wrong == 0 ? "the face is as told" : wrong + " things are not as told");
         if (wrong != 0) {
             System.exit(1);
         }
     }
 
-    private static String told(Method m) {
-        StringBuilder b = new StringBuilder(m.getName()).append('(');
-        for (Class<?> c : m.getParameterTypes()) {
-            b.append(c == int.class ? "I" : c.getName());
-        }
-        return b.append(')').append(m.getReturnType() == long.class ? "J" : m.getReturnType() == int.class ? "I" : "?")
-            .toString();
+    private static String between(String text, String before, String behind) {
+        int from = text.indexOf(before);
+        int to = from < 0 ? -1 : text.indexOf(behind, from + before.length());
+        holds("there is: " + before, to >= 0);
+        return to < 0 ? "" : text.substring(from + before.length(), to);
     }
 
-    private static void face() throws Exception {
-        Set<String> want = new TreeSet<>(Arrays.asList(FACE.split(" ")));
+    /** As the document writes it, but without the names of the parameters. */
+    private static String told(Method m) {
+        StringBuilder b = new StringBuilder(Modifier.toString(m.getModifiers())).append(' ')
+            .append(m.getReturnType().getName()).append(' ').append(m.getName()).append('(');
+        for (Class<?> c : m.getParameterTypes()) {
+            b.append(b.charAt(b.length() - 1) == '(' ? "" : ", ").append(c.getName());
+        }
+        return b.append(')').toString();
+    }
+
+    private static void members(String face) throws Exception {
+        Set<String> want = new TreeSet<>();
         Set<String> names = new TreeSet<>();
-        for (String w : want) {
-            names.add(w.substring(0, w.indexOf('(')));
+        Matcher method = Pattern.compile("public (int|long) (\\w+)\\(([^)]*)\\);").matcher(face);
+        while (method.find()) {
+            names.add(method.group(2));
+            want.add(method.group().replaceAll("(int|long) \\w+([,)])", "$1$2").replace(";", ""));
         }
         Set<String> got = new TreeSet<>();
         for (Method m : BoxSpider.class.getDeclaredMethods()) {
-            if (Modifier.isPublic(m.getModifiers()) && !Modifier.isStatic(m.getModifiers())) {
-                got.add(told(m));
-            } else {
-                holds("private: " + m, Modifier.isPrivate(m.getModifiers()));
+            if (Modifier.isPrivate(m.getModifiers())) {
                 holds("a name of its own: " + m, !names.contains(m.getName()));
-            }
-        }
-        holds("the methods are " + got, got.equals(want));
-        holds("final and public", Modifier.isFinal(BoxSpider.class.getModifiers())
-            && Modifier.isPublic(BoxSpider.class.getModifiers()));
-        Constructor<?>[] made = BoxSpider.class.getDeclaredConstructors();
-        holds("one constructor", made.length == 1 && made[0].getParameterCount() == 0
-            && Modifier.isPublic(made[0].getModifiers()));
-        Set<String> constants = new TreeSet<>();
-        for (Field f : BoxSpider.class.getDeclaredFields()) {
-            if (Modifier.isPublic(f.getModifiers())) {
-                constants.add(f.getName() + "=" + f.getInt(null) + " " + Modifier.toString(f.getModifiers()));
             } else {
-                holds("private: " + f, Modifier.isPrivate(f.getModifiers()));
+                got.add(told(m));
             }
-            holds("static is final: " + f, !Modifier.isStatic(f.getModifiers()) || Modifier.isFinal(f.getModifiers()));
         }
-        holds("the constants are " + constants, constants.equals(new TreeSet<>(Arrays.asList(
-            "BAD=-2 public static final", "FULL=-4 public static final", "NONE=-1 public static final",
-            "NOT=-3 public static final"))));
+        holds("the methods are " + got + ", not " + want, got.equals(want) && want.size() == 31);
+        holds("public and final", face.startsWith(Modifier.toString(BoxSpider.class.getModifiers()) + " class BoxSpider {"));
+        Constructor<?>[] made = BoxSpider.class.getDeclaredConstructors();
+        holds("one constructor", made.length == 1 && face.contains("    " + made[0].toString() + ";"));
+        constants(between(face, "public static final int ", ";"));
+    }
+
+    private static void constants(String told) throws Exception {
+        Set<String> got = new TreeSet<>();
+        for (Field f : BoxSpider.class.getDeclaredFields()) {
+            boolean shared = Modifier.isStatic(f.getModifiers());
+            holds("static is final: " + f, !shared || Modifier.isFinal(f.getModifiers()));
+            if (!Modifier.isPrivate(f.getModifiers())) {
+                holds("a constant: " + f, Modifier.toString(f.getModifiers()).equals("public static final"));
+                got.add(f.getName() + " = " + f.getInt(null));
+            }
+        }
+        holds("the constants are " + got, got.equals(new TreeSet<>(Arrays.asList(told.split(", ")))));
+    }
+
+    /** The calls stand in the document's order, under the headings that it tells. */
+    private static void headings(String document, String source) {
+        Matcher heading = Pattern.compile("Ahead of the calls (.*) the interface says: (---- .*)\\.\n").matcher(document);
+        int at = 0;
+        int calls = 0;
+        while (heading.find()) {
+            at = endOf("\n    // " + Pattern.quote(heading.group(2)) + "\n", source, at);
+            for (String name : heading.group(1).replace("`", "").split(", ")) {
+                at = endOf("\n    public (int|long) " + name + "\\(", source, at);
+                calls++;
+            }
+        }
+        holds("31 calls stand under headings", calls == 31);
+    }
+
+    private static int endOf(String pattern, String source, int from) {
+        Matcher m = Pattern.compile(pattern).matcher(source);
+        boolean there = m.find(from);
+        holds("in its turn: " + pattern, there);
+        return there ? m.end() : from;
     }
 
     private static void classesInside() {
